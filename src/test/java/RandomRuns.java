@@ -11,7 +11,7 @@ import java.util.Random;
  */
 public final class RandomRuns {
     private static final long THROWS = Long.MIN_VALUE;
-    private static final int RUNS = 900;
+    private static final int RUNS = 1500;
     private static final int CALLS = 160;
 
     private static int wrong = 0;
@@ -98,11 +98,11 @@ public final class RandomRuns {
                 case 0:
                     return 1 + draw(6);
                 case 1:
-                    return 1 + draw(40);
+                    return 1 + draw(30);
                 case 2:
-                    return 1 + draw(300);
+                    return 1 + draw(250);
                 default:
-                    return 1 + draw(draw(2) == 0 ? 2500 : 30);
+                    return 1 + draw(draw(2) == 0 ? 2500 : 60);
             }
         }
 
@@ -225,17 +225,38 @@ public final class RandomRuns {
             return calls;
         }
 
+        /** Lines between nearly all; kept and brought again, so that undo() does not take them away. */
         List<String> fullMesh() {
-            List<String> calls = tell("" + (4 + draw(5)), "club");
-            for (int m = 0; m < 8; m++) {
-                int kind = draw(3);
-                int base = style == 0 ? draw(6) : style == 1 ? draw(40) : draw(120);
-                calls.add("sheet " + m + " " + kind + " 7 " + base + " " + draw(style == 0 ? 3 : 12));
-                for (int i = draw(3); i > 0; i--) {
-                    calls.add("limits " + m + " " + draw(8) + " " + limit());
+            int n = 3 + draw(6);
+            List<String> calls = tell("" + n, "club");
+            int[] base = {4, 40, 200, 900};
+            int[] step = {3, 12, 60, 90};
+            for (int m = 0; m < n; m++) {
+                if (draw(4) == 0) {
+                    calls.add("sheet " + m + " " + (style == 0 ? draw(3) : 1 + draw(2)) + " " + (n - 1) + " " + draw(base[style]) + " " + draw(step[style]));
+                } else {
+                    for (int k = 0; k < n; k++) {
+                        calls.add("limits " + m + " " + k + " " + (draw(3) == 0 ? 0 : draw(base[style])));
+                    }
                 }
             }
+            if (draw(4) != 0) {
+                calls.add("keep " + draw(2));
+                calls.add("again 0");
+                calls.add("again 1");
+            }
             return calls;
+        }
+
+        /** A place at which a payment is held, if there is one; now and then another. */
+        int place() {
+            int start = draw(4);
+            for (int i = 0; i < 4 && draw(12) != 0; i++) {
+                if (model.state.holds[(start + i) % 4] != null) {
+                    return (start + i) % 4;
+                }
+            }
+            return draw(6) - 1;
         }
 
         List<String> nextCalls() {
@@ -259,8 +280,18 @@ public final class RandomRuns {
             if (k < 40) {
                 return tell(paymentsText(5), "orders");
             }
-            if (k < 41) {
+            if (k < 44) {
+                return List.of("holds " + two() + " " + (draw(2) == 0 ? 1 + draw(3) : sum()));
+            }
+            if (k < 45) {
                 return draw(4) == 0 ? draw(2) == 0 ? tell(clubText(), "club") : fullMesh() : List.of("count 4");
+            }
+            if (k < 46 && draw(6) == 0) {
+                List<String> calls = new ArrayList<>();
+                for (int i = 0; i < 22; i++) {
+                    calls.add("sign " + random.nextInt());
+                }
+                return calls;
             }
             return List.of(single());
         }
@@ -275,12 +306,12 @@ public final class RandomRuns {
                 case 5: return "most " + two();
                 case 6: return "ring";
                 case 7: return "rings";
-                case 8: return "holds " + two() + " " + sum();
-                case 9: return "makes " + (draw(6) - 1);
-                case 10: return "letsGo " + (draw(6) - 1);
-                case 11: return "held " + (draw(6) - 1) + " " + (draw(6) - 1);
+                case 8: return "holds " + two() + " " + (draw(2) == 0 ? 1 + draw(3) : sum());
+                case 9: return "makes " + place();
+                case 10: return "letsGo " + place();
+                case 11: return "held " + place() + " " + (draw(12) == 0 ? draw(6) - 1 : draw(4));
                 case 12: return "mostThen " + two() + " " + (draw(20) == 0 ? draw(4) - 1 : draw(2));
-                case 13: return draw(3) == 0 ? "settles" : "rings";
+                case 13: return draw(3) == 0 || model.state.firstRing() != null ? "settles" : "rings";
                 case 14: return "raise " + two() + " " + sum();
                 case 15: return "fails " + member();
                 case 16: return "worst";
@@ -291,9 +322,9 @@ public final class RandomRuns {
                 case 21: return "both " + two() + " " + sum() + " " + two() + " " + sum();
                 case 22: return "limits " + two() + " " + limit();
                 case 23: return "stocks " + member() + " " + limit();
-                case 24: return "lets " + two() + " " + sum();
-                case 25: return "leaves " + member();
-                case 26: return "undo";
+                case 24: return draw(2) == 0 ? "lets " + two() + " " + sum() : owedLets();
+                case 25: return draw(3) != 0 ? "ring" : "leaves " + member();
+                case 26: return draw(3) != 0 ? "debts" : "undo";
                 case 27: return "years " + random.nextInt() + " " + (draw(10) == 0 ? draw(34) - 1 : 1 + draw(30));
                 case 28: return "keep " + (draw(4) - 1);
                 case 29: return draw(3) == 0 ? "again " + (draw(4) - 1) : "count 7";
@@ -306,6 +337,19 @@ public final class RandomRuns {
                 case 35: return "end " + (draw(90) - 5);
                 default: return "sign " + random.nextInt();
             }
+        }
+
+        /** Some of a debt that there is, or one more than that. */
+        String owedLets() {
+            int start = draw(64);
+            for (int i = 0; i < 64; i++) {
+                int u = (start + i) % 64 / 8;
+                int v = (start + i) % 8;
+                if (model.state.owes[u][v] > 0) {
+                    return "lets " + u + " " + v + " " + (1 + draw(model.state.owes[u][v] + 1));
+                }
+            }
+            return "lets " + two() + " 1";
         }
 
         String rowOfClass() {
