@@ -26,10 +26,13 @@ public final class TrustClub {
     // More than all rooms from one member together: "as much as goes".
     private static final int WITHOUT_END = 1000000;
 
-    // The answers below NONE.
+    // The answers below NONE; one number has several meanings.
     private static final int NOTHING = -2;
+    private static final int TOO_FEW = -2;
+    private static final int NO_SUCH = -3;
     private static final int NO_PLACE = -3;
-    private static final int NOT_SO = -4;
+    private static final int MISSING = -3;
+    private static final int IMPOSSIBLE = -4;
     private static final int SOME_HELD = -5;
     private static final int FIRST_UNMADE = -100;
     private static final int NO_ORDER = -200;
@@ -96,16 +99,16 @@ public final class TrustClub {
             return SOME_HELD;
         }
         if (kind == 3) {
-            return NO_PLACE;
+            return MISSING;
         }
         if (n < 0) {
-            return NOTHING;
+            return TOO_FEW;
         }
         for (int i = 0; i < n; i++) {
             int fault = entryFault(from, i, entryOf(kind, f + i * step));
             if (fault != 0) {
                 told.tellTwo(i, fault);
-                return NOT_SO;
+                return IMPOSSIBLE;
             }
         }
         int changed = 0;
@@ -365,7 +368,7 @@ public final class TrustClub {
                 }
             }
         }
-        return NO_PLACE;
+        return NO_SUCH;
     }
 
     private boolean goesIfWider(int from, int to, int x, int u, int v, int more) {
@@ -413,11 +416,11 @@ public final class TrustClub {
         }
         // More STOCK keeps one MEMBER up: of two that FAIL in the first round the other one still does.
         if (Integer.bitCount(next) > 1) {
-            return NO_PLACE;
+            return NO_SUCH;
         }
         int who = Integer.numberOfTrailingZeros(next);
         if (!books.has(who)) {
-            return NO_PLACE;
+            return NO_SUCH;
         }
         told.tellOne(Failing.lossOf(books, who, failed) - books.stock[who]);
         return who;
@@ -468,7 +471,7 @@ public final class TrustClub {
             return NONE;
         }
         if (v < books.owed(lineTo, lineFrom)) {
-            return NOT_SO;
+            return IMPOSSIBLE;
         }
         network.load(books);
         network.widen(lineTo, lineFrom, v - books.limit[at(lineFrom, lineTo)]);
@@ -520,7 +523,7 @@ public final class TrustClub {
         }
         for (int other = 0; other < books.members; other++) {
             if (books.debt[at(member, other)] != 0) {
-                return NOT_SO;
+                return IMPOSSIBLE;
             }
         }
         past.add(books);
@@ -683,7 +686,7 @@ public final class TrustClub {
         int sent = network.send(from, to, x);
         if (sent < x) {
             told.tellOne(sent);
-            return NOT_SO;
+            return IMPOSSIBLE;
         }
         network.bookIn(books);
         told.begin();
@@ -701,7 +704,7 @@ public final class TrustClub {
         network.load(books);
         if (!network.findWay(from, to, x)) {
             told.tellOne(network.widest(from, to));
-            return NOT_SO;
+            return IMPOSSIBLE;
         }
         network.pushAlong(x);
         network.bookIn(books);
@@ -721,7 +724,7 @@ public final class TrustClub {
         int sent = network.send(from, to, x);
         if (sent < x) {
             told.tellOne(sent);
-            return NOT_SO;
+            return IMPOSSIBLE;
         }
         books.holdings[place].take(from, to, x, network);
         told.tellOne(network.parts);
@@ -761,7 +764,7 @@ public final class TrustClub {
             return NOTHING;
         }
         if (v < books.owed(to, from)) {
-            return NOT_SO;
+            return IMPOSSIBLE;
         }
         books.limit[at(from, to)] = v;
         return was;
@@ -787,7 +790,7 @@ public final class TrustClub {
             return SOME_HELD;
         }
         if (books.owed(u, v) < x) {
-            return NOT_SO;
+            return IMPOSSIBLE;
         }
         books.payStraight(v, u, x);
         return books.owed(u, v);
@@ -875,10 +878,11 @@ public final class TrustClub {
         }
 
         int heldBetween(int u, int v) {
+            int pair = at(u, v);
             int sum = 0;
             for (int i = 0; i < PLACES; i++) {
                 if (holdings[i].sum > 0) {
-                    sum += holdings[i].flow[at(u, v)];
+                    sum += holdings[i].flow[pair];
                 }
             }
             return sum;

@@ -1305,6 +1305,34 @@ public final class PromiseTests {
         due(y.leaves(0), 1);
         due(y.undo(), 1);
         due(y.count(2), 150);
+        promise37Held();
+    }
+
+    private static void promise37Held() {
+        // A payment that was HELD comes back with both of its ends and all of its steps.
+        TrustClub x = chain();
+        due(x.holds(2, 0, 4), 0);
+        due(x.keep(1), true);
+        due(x.letsGo(0), 4);
+        due(x.holds(1, 0, 5), 0);
+        due(x.letsGo(0), 5);
+        due(x.holds(2, 1, 6), 0);
+        long[][] ahead = {{1, 0, 5, 1}, {2, 0, 4, 2}};
+        for (int i = 0; i < 2; i++) {
+            due(x.undo(), 5 - 2 * i);
+            due(x.undo(), 4 - 2 * i);
+            for (int what = 0; what < 4; what++) {
+                due(x.held(0, what), ahead[i][what]);
+            }
+        }
+        due(x.makes(0), 4);
+        due(x.holds(1, 0, 5), 0);
+        due(x.again(1), true);
+        for (int what = 0; what < 4; what++) {
+            due(x.held(0, what), ahead[1][what]);
+        }
+        due(x.line(1, 2), 50);
+        row(x, 0, 46, 4);
     }
 
     private static void promise38() {
