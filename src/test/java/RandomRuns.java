@@ -75,7 +75,7 @@ public final class RandomRuns {
 
         int member() {
             if (draw(60) == 0) {
-                return draw(3) == 0 ? -1 : model.state.n;
+                return new int[] {-1, model.state.n, model.state.n, 8, 64, Integer.MAX_VALUE, Integer.MIN_VALUE}[draw(7)];
             }
             return draw(model.state.n);
         }
@@ -256,7 +256,7 @@ public final class RandomRuns {
                     return (start + i) % 4;
                 }
             }
-            return draw(6) - 1;
+            return draw(9) == 0 ? random.nextInt() : draw(6) - 1;
         }
 
         List<String> nextCalls() {
