@@ -1417,7 +1417,7 @@ public final class TrustClub {
             distance[to & 7] = 0;
             queue[0] = to;
             int tail = 1;
-            for (int head = 0; head < tail; head++) {
+            for (int head = 0; head < tail && head < MEMBERS_MOST; head++) {
                 int v = queue[head & 7];
                 int steps = distance[v & 7] + 1;
                 for (int u = 0; u < members && tail < MEMBERS_MOST; u++) {
@@ -1495,7 +1495,7 @@ public final class TrustClub {
             int bits = 1 << from;
             queue[0] = from;
             int tail = 1;
-            for (int head = 0; head < tail; head++) {
+            for (int head = 0; head < tail && head < MEMBERS_MOST; head++) {
                 int u = queue[head & 7];
                 for (int v = 0; v < members && tail < MEMBERS_MOST; v++) {
                     if ((bits >> v & 1) == 0 && space[at(u, v)] >= x) {
@@ -1637,7 +1637,7 @@ public final class TrustClub {
             distance[start & 7] = 0;
             queue[0] = start;
             int tail = 1;
-            for (int head = 0; head < tail; head++) {
+            for (int head = 0; head < tail && head < MEMBERS_MOST; head++) {
                 int v = queue[head & 7];
                 int steps = distance[v & 7] + 1;
                 for (int u = start + 1; u < books.members && tail < MEMBERS_MOST; u++) {

@@ -958,7 +958,7 @@ public final class PromiseTests {
         due(y.stocks(1, 1), 0);
         due(y.enough(0), 2);
         row(y, 2);
-        // Beyond 999.
+        // As much as a debt can be.
         TrustClub z = club("2ab999ba999");
         due(z.whole(1, 0, 999), 2);
         due(z.stocks(0, 5), 0);
