@@ -57,6 +57,10 @@ public final class BoundaryPayments extends Sentences {
             due(x.whole(0, 3, 20), 3);
             due(x.whole(0, 3, 11), -4);
             row(x, 10);
+            // a can pay b, but c nobody.
+            TrustClub z = club("3ba010");
+            due(z.whole(2, 1, 5), -4);
+            row(z, 0);
             // The most goes by the longest way.
             TrustClub y = club("4da001ba009cb008dc009");
             due(y.whole(0, 3, 9), -4);

@@ -39,6 +39,7 @@ public final class BoundaryTerms extends Sentences {
             due(club("8").line(0, -1), -1);
             due(readClub("1"), -1);
             due(readClub("9"), -1);
+            clubOfEight();
         });
         says("A LINE from v to u (unlike ones)", () -> {
             TrustClub x = chain();
@@ -90,6 +91,36 @@ public final class BoundaryTerms extends Sentences {
                 due(x.debts(), i == 1 ? 0 : 1);
             }
         });
+    }
+
+    /** Debts of the first ones and of the last ones of a club that is full: each counts once. */
+    private static void clubOfEight() {
+        TrustClub x = club("8ah009hg009bh009ba009");
+        due(x.whole(6, 7, 4), 2);
+        due(x.whole(7, 0, 3), 2);
+        due(x.whole(7, 1, 2), 2);
+        due(x.whole(0, 1, 1), 2);
+        int[] nets = {3 - 1, 2 + 1, 0, 0, 0, 0, -4, 4 - 5};
+        for (int m = 0; m < 8; m++) {
+            due(x.net(m), nets[m]);
+        }
+        due(x.debts(), 10);
+        row(x, 4, 7, 5);
+        due(x.holds(6, 0, 2), 0);
+        due(x.holds(0, 1, 2), 1);
+        due(x.held(0, 3), 2);
+        due(x.held(1, 3), 1);
+        due(x.makes(0), 2);
+        due(x.makes(1), 2);
+        // g owes h 6, h owes a 5 and b 2, a owes b 3.
+        due(x.debts(), 16);
+        row(x, 4, 7, 7);
+        due(x.fails(6), 2);
+        row(x, 1 | 2 | 64 | 128, 6 + 5 + 2 + 3, 0);
+        due(x.worst(), 6);
+        row(x, 16, 3);
+        due(x.leaves(5), 0);
+        due(x.leaves(0), -4);
     }
 
     private static void termsOfPayments() {
